@@ -62,7 +62,7 @@ public final class BothHandsFull {
             return FULL;
         }
         now.kind[now.holds] = kind;
-        now.number[now.holds] = number;
+        now.renumber(now.holds, number);
         return now.holds++;
     }
 
@@ -127,9 +127,9 @@ public final class BothHandsFull {
             return NO_SUCH;
         }
         int was = now.number[h];
-        now.number[h] = v;
+        now.renumber(h, v);
         if (now.left(h) < 0) {
-            now.number[h] = was;
+            now.renumber(h, was);
             return STATE;
         }
         return was;
@@ -177,7 +177,7 @@ public final class BothHandsFull {
             case 1:
                 return now.number[h];
             case 2:
-                return now.room(h);
+                return now.room[h];
             case 3:
                 return MOST[now.kind[h]];
             case 4:
@@ -319,9 +319,11 @@ public final class BothHandsFull {
                 fewest();
                 return search.firstBest();
             case 2:
-                return least();
+                countCosts();
+                return leastIf(NONE, NONE);
             case 3:
-                least();
+                countCosts();
+                leastIf(NONE, NONE);
                 return search.firstBest();
             case 4:
                 think(NONE, NONE);
@@ -355,7 +357,8 @@ public final class BothHandsFull {
         if (!within(what, 2)) {
             return BAD;
         }
-        int least = least();
+        countCosts();
+        int least = leastIf(NONE, NONE);
         int bell = bell();
         boolean rings = isLess(bell, least);
         if (what == 0) {
@@ -365,7 +368,8 @@ public final class BothHandsFull {
     }
 
     public int leave() {
-        int together = least();
+        countCosts();
+        int together = leastIf(NONE, NONE);
         int left = NONE;
         for (int t = 0; t < now.things; t++) {
             int least = t == now.key ? NONE : leastIf(t, NONE);
@@ -381,7 +385,8 @@ public final class BothHandsFull {
         if (!within(what, 2)) {
             return BAD;
         }
-        int least = least();
+        countCosts();
+        int least = leastIf(NONE, NONE);
         int hold = NONE;
         for (int h = 0; h < now.holds; h++) {
             int then = leastIf(NONE, h);
@@ -402,7 +407,7 @@ public final class BothHandsFull {
         return search.spreadFromOpen();
     }
 
-    private int least() {
+    private void countCosts() {
         for (int t = 0; t < now.things; t++) {
             for (int from = 0; from < now.holds; from++) {
                 for (int to = 0; to < now.holds; to++) {
@@ -410,10 +415,9 @@ public final class BothHandsFull {
                 }
             }
         }
-        return leastIf(NONE, NONE);
     }
 
-    /** LEAST, were one THING nowhere, or had one HOLD 1 ROOM more; prices stand from least(). */
+    /** LEAST, were one THING nowhere, or had one HOLD 1 ROOM more; countCosts() goes ahead. */
     private int leastIf(int gone, int wider) {
         think(gone, wider);
         return search.spreadFromOpen();
@@ -422,7 +426,9 @@ public final class BothHandsFull {
     private void think(int gone, int wider) {
         thought.become(now);
         thought.gone = gone;
-        thought.wider = wider;
+        if (wider != NONE) {
+            thought.room[wider]++;
+        }
         search.look(thought);
     }
 
@@ -714,6 +720,7 @@ public final class BothHandsFull {
     private static final class Lot {
         final int[] kind = new int[HOLDS_MOST];
         final int[] number = new int[HOLDS_MOST];
+        final int[] room = new int[HOLDS_MOST];
         final int[] size = new int[THINGS_MOST];
         final int[] dry = new int[THINGS_MOST];
         final int[] apart = new int[THINGS_MOST];
@@ -723,13 +730,13 @@ public final class BothHandsFull {
         int key = NONE;
         int free = 1;
         int rule;
-        /** Only in thought: the THING that is nowhere, and the HOLD that has 1 ROOM more. */
+        /** Only in thought: the THING that is nowhere. */
         int gone = NONE;
-        int wider = NONE;
 
         void become(Lot other) {
             System.arraycopy(other.kind, 0, kind, 0, HOLDS_MOST);
             System.arraycopy(other.number, 0, number, 0, HOLDS_MOST);
+            System.arraycopy(other.room, 0, room, 0, HOLDS_MOST);
             System.arraycopy(other.size, 0, size, 0, THINGS_MOST);
             System.arraycopy(other.dry, 0, dry, 0, THINGS_MOST);
             System.arraycopy(other.apart, 0, apart, 0, THINGS_MOST);
@@ -740,7 +747,6 @@ public final class BothHandsFull {
             free = other.free;
             rule = other.rule;
             gone = NONE;
-            wider = NONE;
         }
 
         boolean hasHold(int h) {
@@ -755,9 +761,9 @@ public final class BothHandsFull {
             return WET[kind[h]];
         }
 
-        int room(int h) {
-            int more = h == wider ? 1 : 0;
-            return roomOf(kind[h], number[h]) + more;
+        void renumber(int h, int v) {
+            number[h] = v;
+            room[h] = roomOf(kind[h], v);
         }
 
         int lying(int h) {
@@ -772,7 +778,7 @@ public final class BothHandsFull {
 
         /** How much ROOM is left. */
         int left(int h) {
-            int left = room(h);
+            int left = room[h];
             for (int t = 0; t < things; t++) {
                 if (lies[t] == h) {
                     left -= size[t];
@@ -786,14 +792,23 @@ public final class BothHandsFull {
             if (lies[t] == h) {
                 return 1;
             }
-            if (size[t] > left(h)) {
+            int together = size[t];
+            int many = 1;
+            int there = 0;
+            for (int i = 0; i < things; i++) {
+                if (lies[i] == h) {
+                    together += size[i];
+                    many++;
+                    there |= 1 << i;
+                }
+            }
+            if (together > room[h]) {
                 return 2;
             }
-            int there = lying(h);
-            if (Integer.bitCount(there) >= MOST[kind[h]]) {
+            if (many > MOST[kind[h]]) {
                 return 3;
             }
-            if (dry[t] == 1 && wet(h) == 1) {
+            if (dry[t] == 1 && WET[kind[h]] == 1) {
                 return 4;
             }
             return (apart[t] & there) != 0 ? 5 : 0;
@@ -829,7 +844,7 @@ public final class BothHandsFull {
         }
 
         boolean isOpen() {
-            if (!hasThing(key) || !hasHold(lies[key])) {
+            if (key == NONE || lies[key] == NONE) {
                 return false;
             }
             return OPENS[kind[lies[key]]] == 1 && freeHands() >= free;
@@ -1164,6 +1179,9 @@ public final class BothHandsFull {
         private final int[] prices = new int[THINGS_MOST * HOLDS_MOST * HOLDS_MOST];
         private final int[] power = new int[THINGS_MOST];
         private final int[] at = new int[THINGS_MOST];
+        // What lookAround() finds, and the place of the price of each MOVE back from there.
+        private final int[] near = new int[THINGS_MOST * HOLDS_MOST];
+        private final int[] backBy = new int[THINGS_MOST * HOLDS_MOST];
         private Lot lot;
         private int states;
         private int home;
@@ -1289,21 +1307,36 @@ public final class BothHandsFull {
 
         /** From each STATE that one MOVE leads here it is no farther than by this one. */
         private void spreadOnce(int s, int d) {
-            split(s);
-            for (int t = 0; t < lot.things; t++) {
-                for (int h = 0; h < lot.holds; h++) {
-                    int p = s + (h - at[t]) * power[t];
-                    if (mark[p] != 0 && p != s) {
-                        int then = d + prices[placeOf(t, h, at[t])];
-                        if (far[p] == NONE) {
-                            enterTurn(p, then);
-                        } else if (far[p] > then) {
-                            leaveTurn(p);
-                            enterTurn(p, then);
-                        }
-                    }
+            int many = lookAround(s);
+            for (int i = 0; i < many; i++) {
+                int p = near[i];
+                int then = d + prices[backBy[i]];
+                if (far[p] == NONE) {
+                    enterTurn(p, then);
+                } else if (far[p] > then) {
+                    leaveTurn(p);
+                    enterTurn(p, then);
                 }
             }
+        }
+
+        /** Puts the STATES that are one MOVE from here into the row near: how many. */
+        private int lookAround(int s) {
+            int many = 0;
+            split(s);
+            for (int t = 0; t < lot.things; t++) {
+                int here = at[t];
+                int p = s - here * power[t];
+                for (int h = 0; h < lot.holds; h++) {
+                    if (h != here && mark[p] != 0) {
+                        near[many] = p;
+                        backBy[many] = placeOf(t, h, here);
+                        many++;
+                    }
+                    p += power[t];
+                }
+            }
+            return many;
         }
 
         private void enterTurn(int s, int d) {
@@ -1340,7 +1373,7 @@ public final class BothHandsFull {
                 int from = lot.lies[t];
                 for (int h = 0; h < lot.holds; h++) {
                     int s = home + (h - from) * power[t];
-                    if (mark[s] != 0 && s != home
+                    if (mark[s] != 0 && s != home && far[s] != NONE
                             && far[home] - far[s] == prices[placeOf(t, from, h)]) {
                         return 10 * t + h;
                     }
@@ -1371,14 +1404,11 @@ public final class BothHandsFull {
 
         private int floodOnce(int s, int many) {
             int all = many;
-            split(s);
-            for (int t = 0; t < lot.things; t++) {
-                for (int h = 0; h < lot.holds; h++) {
-                    int p = s + (h - at[t]) * power[t];
-                    if (mark[p] != 0 && before[p] == 0) {
-                        before[p] = 1;
-                        next[all++] = p;
-                    }
+            int around = lookAround(s);
+            for (int i = 0; i < around; i++) {
+                if (before[near[i]] == 0) {
+                    before[near[i]] = 1;
+                    next[all++] = near[i];
                 }
             }
             return all;
@@ -1428,14 +1458,9 @@ public final class BothHandsFull {
         }
 
         private void stepOnce(int s, int rows) {
-            split(s);
-            for (int t = 0; t < lot.things; t++) {
-                for (int h = 0; h < lot.holds; h++) {
-                    int p = s + (h - at[t]) * power[t];
-                    if (mark[p] != 0 && p != s) {
-                        next[p] += rows;
-                    }
-                }
+            int many = lookAround(s);
+            for (int i = 0; i < many; i++) {
+                next[near[i]] += rows;
             }
         }
     }
