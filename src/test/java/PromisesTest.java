@@ -653,6 +653,21 @@ public final class PromisesTest {
         z.thing(10, 1);
         z.set(1, 0, 1);
         due("17 LEAST was NONE", z.leave(), 0);
+        // Against 9: without the first 7 and 2, the second 6 and 1, the third 6 and 0.
+        BothHandsFull w = new BothHandsFull();
+        w.hold(HAND, 5);
+        w.hold(HAND, 9);
+        w.hold(SILL, 9);
+        w.thing(10, 2);
+        w.thing(20, 0);
+        w.thing(30, 0);
+        w.thing(30, 0);
+        w.thing(90, 1);
+        w.set(1, 0, 0);
+        text(w, "costs size;bell 1;worth 2*(thing<4)-(thing=2)-5*(thing=3)+900*(thing=4);");
+        w.force(1);
+        due("17 LEAST", w.best(2), 9);
+        due("17 the third helps most", w.leave(), 3);
         due("17 nothing at all", new BothHandsFull().leave(), -1);
     }
 
@@ -782,7 +797,22 @@ public final class PromisesTest {
         due("21 missing", x.soonest(1), -11);
         due("21 no such SHEET", x.soonest(4), -2);
         due("21 SHEET below", x.soonest(-1), -2);
-        // 9 MOVES are too many: one after another through a full row of NAILS.
+        // So narrow that two THINGS change places only after 8 MOVES, and after 9 from beside.
+        BothHandsFull z = new BothHandsFull();
+        z.hold(HAND, 3);
+        z.hold(HOLD, 2);
+        z.hold(HOLD, 3);
+        z.thing(60, 2);
+        z.thing(40, 1);
+        z.thing(40, 0);
+        z.thing(20, 2);
+        row(z, 0, 0, 1, 2, 0, 2);
+        due("21 by 8", z.soonest(0), 8);
+        due("21 by 7 in no way", z.ways(0, 7), 0);
+        due("21 by 8 in two", z.ways(0, 8), 2);
+        z.move(3, 0);
+        due("21 more than 8", z.soonest(0), -1);
+        due("21 by 8 in no way", z.ways(0, 8), 0);
         BothHandsFull y = new BothHandsFull();
         for (int i = 0; i < 5; i++) {
             y.hold(NAIL, 9);
@@ -1053,6 +1083,16 @@ public final class PromisesTest {
         due("30 missing is of no sort", x.things(0, 0, 0, 0), -11);
         row(x, 0, 2, 10, 1, 10, 1, 10, 1, 10, 1, 10, 1);
         due("30 till there are five", x.things(0, 2, 0, 5), 2);
+        BothHandsFull y = new BothHandsFull();
+        y.hold(HOLD, 9);
+        y.hold(SILL, 9);
+        row(y, 0, 0, 9, 10, 0, 21, 1, 30, 0, 40, 1, 51, 0);
+        due("30 five, one behind the other", y.things(0, 0, 1, 5), 5);
+        for (int t = 0; t < 5; t++) {
+            due("30 SIZE of " + t, y.told(t, 8), t + 1);
+            due("30 DRY of " + t, y.told(t, 9), t == 1 || t == 4 ? 1 : 0);
+            due("30 HOLD of " + t, y.told(t, 10), t % 2);
+        }
     }
 
     private static void taken() {
