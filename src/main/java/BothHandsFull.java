@@ -314,9 +314,9 @@ public final class BothHandsFull {
     public int best(int what) {
         switch (what) {
             case 0:
-                return fewest();
+                return fewest(false);
             case 1:
-                fewest();
+                fewest(false);
                 return search.firstBest();
             case 2:
                 countCosts();
@@ -329,7 +329,7 @@ public final class BothHandsFull {
                 think(NONE, NONE);
                 return search.flood();
             case 5:
-                fewest();
+                fewest(true);
                 return search.farthest();
             default:
                 return NO_SUCH;
@@ -340,7 +340,7 @@ public final class BothHandsFull {
         if (!now.hasThing(thing) || !within(what, 2)) {
             return BAD;
         }
-        fewest();
+        fewest(true);
         int hold = NONE;
         int fewest = NONE;
         for (int h = 0; h < now.holds; h++) {
@@ -401,10 +401,11 @@ public final class BothHandsFull {
         return what == 0 ? hold : least;
     }
 
-    private int fewest() {
+    /** FEWEST of now; by all, of all STATES too. */
+    private int fewest(boolean all) {
         think(NONE, NONE);
         search.countMoves();
-        return search.spreadFromOpen();
+        return search.spreadFromOpen(all);
     }
 
     private void countCosts() {
@@ -420,7 +421,7 @@ public final class BothHandsFull {
     /** LEAST, were one THING nowhere, or had one HOLD 1 ROOM more; countCosts() goes ahead. */
     private int leastIf(int gone, int wider) {
         think(gone, wider);
-        return search.spreadFromOpen();
+        return search.spreadFromOpen(false);
     }
 
     private void think(int gone, int wider) {
@@ -1264,24 +1265,24 @@ public final class BothHandsFull {
             }
         }
 
-        /** How far it is from every STATE to one that is OPEN; answers how far from home. */
-        int spreadFromOpen() {
+        /** How far it is from home to a STATE that is OPEN; the row far tells it of others. */
+        int spreadFromOpen(boolean all) {
             clearTurns();
             for (int s = 0; s < states; s++) {
                 if (mark[s] == OPEN) {
                     enterTurn(s, 0);
                 }
             }
-            return spread();
+            return spread(all);
         }
 
-        /** How far it is from every STATE to this one (NONE: to none); answers how far from home. */
+        /** How far it is from home to this STATE (NONE: to none). */
         int spreadFrom(int goal) {
             clearTurns();
             if (goal != NONE) {
                 enterTurn(goal, 0);
             }
-            return spread();
+            return spread(false);
         }
 
         private void clearTurns() {
@@ -1294,8 +1295,12 @@ public final class BothHandsFull {
             }
         }
 
-        private int spread() {
+        /** Goes outward; if not to all, then till those are done that are no farther than home. */
+        private int spread(boolean all) {
             for (int d = 0; d <= FARTHEST && waiting > 0; d++) {
+                if (!all && far[home] != NONE && far[home] < d) {
+                    return far[home];
+                }
                 for (int i = 0; i < states && heads[d % TURNS] != NONE; i++) {
                     int s = heads[d % TURNS];
                     leaveTurn(s);
