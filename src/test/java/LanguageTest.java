@@ -130,6 +130,10 @@ public final class LanguageTest {
         while (m.find()) {
             due("rule 4: " + m.group(), may.contains(m.group()));
         }
+        for (String line : code.split("\n")) {
+            boolean inFieldOrConstructor = line.matches("\\s+(private )?final .* = new .*;|\\s+(texts|sheets)\\[i\\] = new \\w+\\(\\);");
+            due("no call makes an object: " + line, !line.matches(".*\\bnew\\b.*") || inFieldOrConstructor);
+        }
         Matcher made = Pattern.compile("\\bnew\\s+(\\w+)").matcher(code);
         while (made.find()) {
             due("rule 4: new " + made.group(1), Arrays.asList("int", "Lot", "Search", "Tape", "Text", "Sheet").contains(made.group(1)));
