@@ -82,6 +82,21 @@ public final class HoldsTest extends Checks {
         due("THE IMAGE of the other", y.back(), STATE);
     }
 
+    static void promise1_usedFor512Calls() {
+        BothHandsFull x = fullHands();
+        x.image();
+        int called = 8;
+        while (called < 508) {
+            x.move(1, 2);
+            x.back();
+            called += 2;
+        }
+        due("call 509", x.best(2), 7);
+        due("call 510", x.roomy(1), 5);
+        due("call 511", x.move(1, 2), 3);
+        due("call 512", x.best(0), 2);
+    }
+
     static void promise1_constants() {
         due("NONE", BothHandsFull.NONE, -1);
         due("BAD", BothHandsFull.BAD, -2);
