@@ -7,8 +7,11 @@ import java.lang.reflect.Modifier;
 import java.nio.charset.StandardCharsets;
 import java.nio.file.Files;
 import java.nio.file.Path;
+import java.util.ArrayDeque;
 import java.util.Arrays;
+import java.util.Map;
 import java.util.Set;
+import java.util.TreeMap;
 import java.util.TreeSet;
 import java.util.regex.Matcher;
 import java.util.regex.Pattern;
@@ -25,6 +28,10 @@ public final class LanguageTest {
         "int count(int)", "int sheet(int,int,int)", "int cell(int,int,int)", "int copy(int,int,int,int,int)",
         "int things(int,int,int,int)", "int taken(int,int)",
     };
+    /** Of a method at the depth of methods: how far in it stands, what it is, its name, what it does. */
+    private static final Pattern METHOD = Pattern.compile(
+        "^( {4}| {8})((?:[\\w\\[\\]]+ )+)(\\w+)\\([^\n]*\\) \\{\n(.*?)^\\1\\}$", Pattern.DOTALL | Pattern.MULTILINE);
+    private static final int CALLS_DEEP = 8;
     private static int wrong = 0;
 
     private static void due(String rule, boolean holds) {
@@ -41,6 +48,7 @@ public final class LanguageTest {
         words(code);
         library(code);
         methods(code);
+        calls(code);
         System.out.println(wrong == 0 ? "the language is kept to" : wrong + " rules are not kept to");
         if (wrong != 0) {
             System.exit(1);
@@ -158,5 +166,45 @@ public final class LanguageTest {
             }
         }
         due("all brackets are closed", depth == 0);
+    }
+
+    /** Rules 8 and 11, by the names of methods: those of one name in two classes count as one. */
+    private static void calls(String code) {
+        Map<String, Set<String>> called = new TreeMap<>();
+        Map<String, Boolean> isPrivate = new TreeMap<>();
+        Matcher m = METHOD.matcher(code);
+        while (m.find()) {
+            Set<String> names = called.computeIfAbsent(m.group(3), k -> new TreeSet<>());
+            Matcher call = Pattern.compile("\\b(\\w+)\\(").matcher(m.group(4));
+            while (call.find()) {
+                names.add(call.group(1));
+            }
+            isPrivate.merge(m.group(3), m.group(2).contains("private"), Boolean::logicalAnd);
+        }
+        due("the methods are found", called.keySet().containsAll(Arrays.asList("leave", "joined", "lay", "isWord")));
+        for (String name : called.keySet()) {
+            int deep = deepest(name, called, new ArrayDeque<>());
+            due("rule 11: " + name + " goes " + deep + " calls deep", deep <= CALLS_DEEP);
+            boolean again = called.get(name).stream().anyMatch(n -> leadsTo(n, name, called, new TreeSet<>()));
+            due("rule 8: " + name + " calls itself", !again || isPrivate.get(name));
+        }
+    }
+
+    /** How many calls stand open at most, the library's too, each method once. */
+    private static int deepest(String name, Map<String, Set<String>> called, ArrayDeque<String> open) {
+        open.push(name);
+        int most = 0;
+        for (String next : called.getOrDefault(name, Set.of())) {
+            if (!open.contains(next)) {
+                most = Math.max(most, deepest(next, called, open));
+            }
+        }
+        open.pop();
+        return most + 1;
+    }
+
+    private static boolean leadsTo(String from, String to, Map<String, Set<String>> called, Set<String> seen) {
+        return from.equals(to) || seen.add(from)
+            && called.getOrDefault(from, Set.of()).stream().anyMatch(n -> leadsTo(n, to, called, seen));
     }
 }
